@@ -14,6 +14,7 @@ public final class MonotoneSpline {
     private static final int TANH = 2;
     private static final int EXPM1 = 3;
     private static final int SINH = 4;
+    private static final int CBRT = 5;
     private static final int LOG1P = 6;
 
     private final Points points;
@@ -82,7 +83,7 @@ public final class MonotoneSpline {
         return blocks.count;
     }
 
-    /** The knots of the blocks before this one are there already, so the next point is theirs plus one. */
+    /** A knot has the index of its point, so the number of knots so far tells the next point. */
     private void layKnotsOf(int block) {
         double level = blocks.levelOf(block);
         int size = blocks.sizeOf(block);
@@ -364,9 +365,9 @@ public final class MonotoneSpline {
     }
 
     /**
-     * The 64 bits of a finite number. The language's part at hand has no call for them, so the number
-     * is scaled by powers of two, which is exact, until its 53 digits are a whole number. No -0.0
-     * comes here: settled numbers have none, and no sum of others gives one.
+     * The 64 bits of a knot's number. The language's part at hand has no call for them, so the number
+     * is scaled up by powers of two, which is exact, until its 53 digits are a whole number. No knot
+     * has a number near 2 to the 53rd, or -0.0: what is settled is not -0.0, and no sum of it is.
      */
     private static long bitsOf(double number) {
         if (number == 0.0) {
@@ -381,10 +382,6 @@ public final class MonotoneSpline {
         while (digits < 4503599627370496.0 && scale > -1074) {
             digits = digits * 2.0;
             scale = scale - 1;
-        }
-        while (digits >= 9007199254740992.0 && scale < 971) {
-            digits = digits / 2.0;
-            scale = scale + 1;
         }
         long bits = (long) digits;
         // The leading digit of a full number adds the missing 1 to the exponent itself.
@@ -648,18 +645,19 @@ public final class MonotoneSpline {
 
         double limitFrom(double y) {
             switch (kind) {
-                case NONE:
-                    return y;
                 case ATAN:
                     return y + factor * mirrored(1.5707963267948966);
                 case TANH:
                     return y + factor * mirrored(1.0);
                 case EXPM1:
                     return y + factor * -1.0;
+                case SINH:
+                case CBRT:
+                    return endless((factor > 0.0) != isLeft);
                 case LOG1P:
                     return endless(factor > 0.0);
                 default:
-                    return endless((factor > 0.0) != isLeft);
+                    return y;
             }
         }
 

@@ -49,6 +49,8 @@ public final class PromiseTest {
         for (double wrong : new double[] {ABOVE_MILLION, -ABOVE_MILLION, NAN, ENDLESS, -ENDLESS, Double.MAX_VALUE}) {
             checks.refused("2: the place " + wrong, ARGUMENT, () -> s.addPoint(wrong, 0.0, 1.0));
             checks.refused("2: the value " + wrong, ARGUMENT, () -> s.addPoint(0.0, wrong, 1.0));
+            MonotoneSpline empty = new MonotoneSpline();
+            checks.refused("2: far from others, " + wrong, ARGUMENT, () -> empty.addPoint(wrong, 0.0, 1.0));
         }
         double[] weights = {Math.nextDown(0.001), Math.nextUp(1000.0), 0.0, -1.0, 1e-7, NAN, ENDLESS, -ENDLESS};
         for (double wrong : weights) {
@@ -254,6 +256,8 @@ public final class PromiseTest {
         checks.refused("10: -1", INDEX, () -> s.knotSlope(-1));
         checks.refused("10: the count", INDEX, () -> s.knotSlope(5));
         checks.refused("10: without a fit", INDEX, () -> new MonotoneSpline().knotSlope(0));
+        MonotoneSpline r = fitted(0.0, 0.0, 3.0, 1.5, 5.0, 6.5);
+        checks.same("10: widths 3 and 2", r.knotSlope(1), 15.0 / (7.0 / 0.5 + 8.0 / 2.5));
         MonotoneSpline t = fitted(0.0, 0.0, 1.0, 1.0, 2.0, 5.0);
         t.fixSlope(1, 2.5);
         checks.same("10: fixed", t.knotSlope(1), 2.5);
@@ -498,13 +502,21 @@ public final class PromiseTest {
             checks.refused("19: from " + x, ARGUMENT, () -> s.area(x, 1.0));
             checks.refused("19: to " + x, ARGUMENT, () -> s.area(1.0, x));
         }
-        checks.refused("17: no knots", ARGUMENT, () -> points(0.0, 0.0, 1.0, 1.0).value(0.5));
-        checks.refused("18: no knots", ARGUMENT, () -> points(0.0, 0.0, 1.0, 1.0).slope(0.5));
-        checks.refused("19: no knots", ARGUMENT, () -> points(0.0, 0.0, 1.0, 1.0).area(0.0, 0.5));
+        MonotoneSpline empty = points(0.0, 0.0, 1.0, 1.0);
+        for (double x : new double[] {0.0, 0.5, 1.0}) {
+            checks.refused("17: no knots", ARGUMENT, () -> empty.value(x));
+            checks.refused("18: no knots", ARGUMENT, () -> empty.slope(x));
+            checks.refused("19: no knots", ARGUMENT, () -> empty.area(x, x));
+            checks.refused("20: no knots", ARGUMENT, () -> empty.reach(x));
+        }
         MonotoneSpline t = fitted(2.8, 1.7, 4.4, 3.4);
         t.fixSlope(0, MILLION);
         t.fixSlope(1, MILLION);
         checks.same("17: the last place is of the last piece", t.value(4.4), 3.4000000000000004);
+        MonotoneSpline u = fitted(2.8, 1.7, 4.4, 3.4, 5.0, 9.0);
+        u.fixSlope(0, MILLION);
+        u.fixSlope(1, MILLION);
+        checks.same("17: a place between is of the piece behind it", u.value(4.4), 3.4);
         checks.same("17: -0.0 is the place 0", s.value(-0.0), 0.0);
     }
 
@@ -561,7 +573,6 @@ public final class PromiseTest {
         for (double y : wrong) {
             checks.refused("20: " + y, ARGUMENT, () -> s.reach(y));
         }
-        checks.refused("20: no knots", ARGUMENT, () -> points(0.0, 0.0, 1.0, 1.0).reach(0.5));
         MonotoneSpline t = fitted(-2.0, 3.0, -1.0, 3.0, 0.0, 5.0, 1.0, 5.0, 2.0, 6.0);
         checks.isTrue("20: before a flat piece", t.reach(5.0) <= 0.0 && t.reach(5.0) > -0.000001);
         checks.same("20: the first flat piece", t.reach(3.0), -2.0);
@@ -585,6 +596,7 @@ public final class PromiseTest {
         checks.same("22: none", fitted(0.0, 0.0, 1.0, 1.0, 2.0, 4.0).flatCount(), 0);
         checks.same("22: two of four", fitted(0.0, 1.0, 1.0, 1.0, 2.0, 4.0, 3.0, 5.0, 4.0, 5.0).flatCount(), 2);
         checks.same("22: all", fitted(0.0, 1.0, 1.0, 1.0, 2.0, 1.0).flatCount(), 2);
+        checks.same("22: the last knot begins no piece", fitted(0.0, -1.0, 1.0, 0.0).flatCount(), 0);
         checks.same("22: no knots", points(0.0, 1.0, 1.0, 1.0).flatCount(), 0);
     }
 
@@ -644,6 +656,9 @@ public final class PromiseTest {
         limitOf(s, 5, -0.5, ENDLESS, -ENDLESS);
         limitOf(s, 6, 0.5, ENDLESS, ENDLESS);
         limitOf(s, 6, -0.5, -ENDLESS, -ENDLESS);
+        limitOf(s, 4, 0.000001, -ENDLESS, ENDLESS);
+        limitOf(s, 5, -0.000001, ENDLESS, -ENDLESS);
+        limitOf(s, 6, 0.000001, ENDLESS, ENDLESS);
         limitOf(s, 0, 5.0, 0.25, 4.0);
         limitOf(s, 2, 0.0, 0.25, 4.0);
         limitOf(s, 2, 0.0000009, 0.25, 4.0);
