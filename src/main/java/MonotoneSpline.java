@@ -388,7 +388,7 @@ public final class MonotoneSpline {
         if (bits >= 4503599627370496L) {
             bits = bits + ((long) (scale + 1074) << 52);
         }
-        return number < 0.0 ? bits | Long.MIN_VALUE : bits;
+        return number < 0.0 ? bits | (1L << 63) : bits;
     }
 
     // ---- what the fitter is made of
@@ -653,7 +653,7 @@ public final class MonotoneSpline {
                     return y + factor * -1.0;
                 case SINH:
                 case CBRT:
-                    return endless((factor > 0.0) != isLeft);
+                    return endless(isLeft ? factor < 0.0 : factor > 0.0);
                 case LOG1P:
                     return endless(factor > 0.0);
                 default:

@@ -10,21 +10,6 @@ public final class PromiseTest {
 
     private static final Checks checks = new Checks("PromiseTest");
 
-    /** Points with the weight 1: a place, a value, the next place and so on. */
-    private static MonotoneSpline points(double... numbers) {
-        MonotoneSpline s = new MonotoneSpline();
-        for (int i = 0; i < numbers.length; i += 2) {
-            s.addPoint(numbers[i], numbers[i + 1], 1.0);
-        }
-        return s;
-    }
-
-    private static MonotoneSpline fitted(double... numbers) {
-        MonotoneSpline s = points(numbers);
-        s.fit();
-        return s;
-    }
-
     private static void newObject() {
         MonotoneSpline s = new MonotoneSpline();
         checks.same("1: no points", s.pointCount(), 0);
@@ -34,7 +19,7 @@ public final class PromiseTest {
         checks.same("1: the digest", s.digest(), 59L * 31 * 31 * 31 * 31);
         checks.same("1: tail 0", s.setTail(0, 1, 1.0), 0);
         checks.same("1: tail 1", s.setTail(1, 1, 1.0), 0);
-        MonotoneSpline other = points(1.0, 1.0);
+        MonotoneSpline other = Splines.points(1.0, 1.0);
         checks.same("1: objects share nothing", s.pointCount() + 10 * other.pointCount(), 10);
     }
 
@@ -60,7 +45,7 @@ public final class PromiseTest {
     }
 
     private static void addPointNearby() {
-        MonotoneSpline s = points(0.0, 0.0, 1.0, 0.0, 5.0, 0.0, 10.0, 0.0);
+        MonotoneSpline s = Splines.points(0.0, 0.0, 1.0, 0.0, 5.0, 0.0, 10.0, 0.0);
         checks.refused("2: the same place", ARGUMENT, () -> s.addPoint(5.0, 9.0, 1.0));
         checks.refused("2: less than 0.001 behind", ARGUMENT, () -> s.addPoint(0.000999, 0.0, 1.0));
         checks.refused("2: less than 0.001 before", ARGUMENT, () -> s.addPoint(-0.000999, 0.0, 1.0));
@@ -82,13 +67,13 @@ public final class PromiseTest {
         checks.same("2: a value that is not small", s.knotValue(0), -0.000001);
         checks.same("2: a small value", s.knotValue(1), 0.0);
         checks.same("2: another small value", s.knotValue(2), 0.0);
-        MonotoneSpline t = points(0.001, 0.0, -0.001, 0.0);
+        MonotoneSpline t = Splines.points(0.001, 0.0, -0.001, 0.0);
         checks.same("2: a small place is 0 before it is compared", t.addPoint(0.0000009, 0.0, 1.0), 1);
-        MonotoneSpline u = points(0.0009995, 0.0);
+        MonotoneSpline u = Splines.points(0.0009995, 0.0);
         checks.refused("2: also for what is refused", ARGUMENT, () -> u.addPoint(-0.0000009, 0.0, 1.0));
         checks.same("2: a place that is not small", u.addPoint(-0.000001, 0.0, 1.0), 0);
         checks.same("2: it is kept", u.pointPlace(0), -0.000001);
-        MonotoneSpline v = points(-0.0, -0.0);
+        MonotoneSpline v = Splines.points(-0.0, -0.0);
         checks.same("2: -0.0 is 0", v.pointPlace(0), 0.0);
     }
 
@@ -115,7 +100,7 @@ public final class PromiseTest {
     }
 
     private static void removePoint() {
-        MonotoneSpline s = fitted(0.0, 0.0, 1.0, 1.0, 2.0, 4.0);
+        MonotoneSpline s = Splines.fitted(0.0, 0.0, 1.0, 1.0, 2.0, 4.0);
         checks.refused("3: -1", INDEX, () -> s.removePoint(-1));
         checks.refused("3: the count", INDEX, () -> s.removePoint(3));
         checks.refused("3: far", INDEX, () -> s.removePoint(Integer.MAX_VALUE));
@@ -145,7 +130,7 @@ public final class PromiseTest {
     }
 
     private static void pointCount() {
-        MonotoneSpline s = points(0.0, 0.0, 1.0, 0.0);
+        MonotoneSpline s = Splines.points(0.0, 0.0, 1.0, 0.0);
         checks.same("4: two", s.pointCount(), 2);
         s.fit();
         s.insertKnot(0.5);
@@ -155,7 +140,7 @@ public final class PromiseTest {
     }
 
     private static void pointPlace() {
-        MonotoneSpline s = points(3.0, 0.0, -1.5, 0.0, 2.25, 0.0);
+        MonotoneSpline s = Splines.points(3.0, 0.0, -1.5, 0.0, 2.25, 0.0);
         checks.same("5: the first", s.pointPlace(0), -1.5);
         checks.same("5: the second", s.pointPlace(1), 2.25);
         checks.same("5: the last", s.pointPlace(2), 3.0);
@@ -166,13 +151,13 @@ public final class PromiseTest {
     }
 
     private static void fit() {
-        MonotoneSpline s = points(0.0, 1.0, 1.0, 3.0, 2.0, 2.0, 3.0, 2.0, 4.0, -7.0, 5.0, 9.0);
+        MonotoneSpline s = Splines.points(0.0, 1.0, 1.0, 3.0, 2.0, 2.0, 3.0, 2.0, 4.0, -7.0, 5.0, 9.0);
         checks.same("6: blocks that join again and again", s.fit(), 2);
         checks.same("6: the level of five", s.knotValue(0), 0.2);
         checks.same("6: of all five", s.knotValue(4), 0.2);
         checks.same("6: the last", s.knotValue(5), 9.0);
         checks.same("6: a knot for each point", s.knotCount(), 6);
-        checks.same("6: equal values do not join", points(0.0, 2.0, 1.0, 2.0, 2.0, 2.0).fit(), 3);
+        checks.same("6: equal values do not join", Splines.points(0.0, 2.0, 1.0, 2.0, 2.0, 2.0).fit(), 3);
         MonotoneSpline t = new MonotoneSpline();
         t.addPoint(0.0, 4.0, 3.0);
         t.addPoint(1.0, 0.0, 1.0);
@@ -181,7 +166,7 @@ public final class PromiseTest {
         checks.same("6: their level", t.knotValue(1), 3.0);
         checks.same("6: a product and a quotient round", t.knotValue(2), 0.1 * 3.5 / 0.1);
         checks.refused("6: no points", STATE, () -> new MonotoneSpline().fit());
-        checks.refused("6: one point", STATE, () -> points(1.0, 1.0).fit());
+        checks.refused("6: one point", STATE, () -> Splines.points(1.0, 1.0).fit());
     }
 
     private static void fitRounds() {
@@ -202,7 +187,7 @@ public final class PromiseTest {
     }
 
     private static void fitAgain() {
-        MonotoneSpline s = fitted(0.0, 0.0, 1.0, 1.0, 2.0, 4.0);
+        MonotoneSpline s = Splines.fitted(0.0, 0.0, 1.0, 1.0, 2.0, 4.0);
         s.insertKnot(0.5);
         s.fixSlope(0, 0.5);
         s.setTail(1, 2, 0.5);
@@ -220,7 +205,7 @@ public final class PromiseTest {
     }
 
     private static void knotCount() {
-        MonotoneSpline s = points(0.0, 0.0, 1.0, 1.0);
+        MonotoneSpline s = Splines.points(0.0, 0.0, 1.0, 1.0);
         checks.same("7: none without a fit", s.knotCount(), 0);
         s.fit();
         checks.same("7: two", s.knotCount(), 2);
@@ -231,23 +216,23 @@ public final class PromiseTest {
     }
 
     private static void knotPlaceAndValue() {
-        MonotoneSpline s = fitted(4.0, 5.0, -2.0, -3.0, 1.0, 2.0);
+        MonotoneSpline s = Splines.fitted(4.0, 5.0, -2.0, -3.0, 1.0, 2.0);
         checks.same("8: the first", s.knotPlace(0), -2.0);
         checks.same("8: between", s.knotPlace(1), 1.0);
         checks.same("8: the last", s.knotPlace(2), 4.0);
         checks.refused("8: -1", INDEX, () -> s.knotPlace(-1));
         checks.refused("8: the count", INDEX, () -> s.knotPlace(3));
-        checks.refused("8: without a fit", INDEX, () -> points(1.0, 1.0).knotPlace(0));
+        checks.refused("8: without a fit", INDEX, () -> Splines.points(1.0, 1.0).knotPlace(0));
         checks.same("9: the first", s.knotValue(0), -3.0);
         checks.same("9: between", s.knotValue(1), 2.0);
         checks.same("9: the last", s.knotValue(2), 5.0);
         checks.refused("9: -1", INDEX, () -> s.knotValue(-1));
         checks.refused("9: the count", INDEX, () -> s.knotValue(3));
-        checks.refused("9: without a fit", INDEX, () -> points(1.0, 1.0).knotValue(0));
+        checks.refused("9: without a fit", INDEX, () -> Splines.points(1.0, 1.0).knotValue(0));
     }
 
     private static void knotSlope() {
-        MonotoneSpline s = fitted(0.0, 0.0, 1.0, 1.0, 3.0, 5.0, 4.0, 5.0, 5.0, 6.0);
+        MonotoneSpline s = Splines.fitted(0.0, 0.0, 1.0, 1.0, 3.0, 5.0, 4.0, 5.0, 5.0, 6.0);
         checks.same("10: the first", s.knotSlope(0), 1.0);
         checks.same("10: widths 1 and 2", s.knotSlope(1), 9.0 / (5.0 / 1.0 + 4.0 / 2.0));
         checks.same("10: before a flat piece", s.knotSlope(2), 0.0);
@@ -256,9 +241,9 @@ public final class PromiseTest {
         checks.refused("10: -1", INDEX, () -> s.knotSlope(-1));
         checks.refused("10: the count", INDEX, () -> s.knotSlope(5));
         checks.refused("10: without a fit", INDEX, () -> new MonotoneSpline().knotSlope(0));
-        MonotoneSpline r = fitted(0.0, 0.0, 3.0, 1.5, 5.0, 6.5);
+        MonotoneSpline r = Splines.fitted(0.0, 0.0, 3.0, 1.5, 5.0, 6.5);
         checks.same("10: widths 3 and 2", r.knotSlope(1), 15.0 / (7.0 / 0.5 + 8.0 / 2.5));
-        MonotoneSpline t = fitted(0.0, 0.0, 1.0, 1.0, 2.0, 5.0);
+        MonotoneSpline t = Splines.fitted(0.0, 0.0, 1.0, 1.0, 2.0, 5.0);
         t.fixSlope(1, 2.5);
         checks.same("10: fixed", t.knotSlope(1), 2.5);
         t.fixSlope(1, 3.0);
@@ -276,7 +261,7 @@ public final class PromiseTest {
     }
 
     private static void isFixed() {
-        MonotoneSpline s = fitted(0.0, 0.0, 1.0, 1.0, 2.0, 4.0);
+        MonotoneSpline s = Splines.fitted(0.0, 0.0, 1.0, 1.0, 2.0, 4.0);
         checks.same("11: free at first", s.isFixed(1), false);
         s.fixSlope(1, 0.0);
         checks.same("11: fixed at 0", s.isFixed(1), true);
@@ -289,7 +274,7 @@ public final class PromiseTest {
     }
 
     private static void insertKnot() {
-        MonotoneSpline s = fitted(0.0, 0.0, 1.0, 1.0, 2.0, 4.0);
+        MonotoneSpline s = Splines.fitted(0.0, 0.0, 1.0, 1.0, 2.0, 4.0);
         s.fixSlope(0, 2.0);
         s.fixSlope(2, 5.0);
         double height = s.value(1.25);
@@ -308,7 +293,7 @@ public final class PromiseTest {
     }
 
     private static void insertWrongKnot() {
-        MonotoneSpline s = fitted(-1.0, 0.0, 0.0, 1.0, 1.0, 4.0);
+        MonotoneSpline s = Splines.fitted(-1.0, 0.0, 0.0, 1.0, 1.0, 4.0);
         double[] wrong = {-1.0, 1.0, 0.0, -1.5, 1.5, NAN, ENDLESS, -ENDLESS, -0.00009, 0.00009, -0.99995, 0.99995,
             0.0000009, -0.0000009, -0.0, Math.nextDown(0.0001), -Math.nextDown(0.0001)};
         for (double x : wrong) {
@@ -317,11 +302,11 @@ public final class PromiseTest {
         checks.same("12: what is refused changes nothing", s.knotCount(), 3);
         checks.same("12: 0.0001 behind a knot", s.insertKnot(0.0001), 2);
         checks.same("12: 0.0001 before a knot", s.insertKnot(-0.0001), 1);
-        checks.refused("12: no knots", ARGUMENT, () -> points(0.0, 0.0, 1.0, 1.0).insertKnot(0.5));
-        MonotoneSpline t = fitted(-1.0, 0.0, 1.0, 4.0);
+        checks.refused("12: no knots", ARGUMENT, () -> Splines.points(0.0, 0.0, 1.0, 1.0).insertKnot(0.5));
+        MonotoneSpline t = Splines.fitted(-1.0, 0.0, 1.0, 4.0);
         checks.same("12: a small place", t.insertKnot(-0.0000009), 1);
         checks.same("12: it is 0", t.knotPlace(1), 0.0);
-        MonotoneSpline u = fitted(0.000001, 0.0, 1.0, 4.0);
+        MonotoneSpline u = Splines.fitted(0.000001, 0.0, 1.0, 4.0);
         checks.refused("12: a small place is 0 before it is compared", ARGUMENT, () -> u.insertKnot(0.00000099));
     }
 
@@ -342,13 +327,13 @@ public final class PromiseTest {
     }
 
     private static void insertKnotThatRoundingMoves() {
-        MonotoneSpline s = fitted(-530000.0, 3.0, 670000.0, 9.0);
+        MonotoneSpline s = Splines.fitted(-530000.0, 3.0, 670000.0, 9.0);
         s.fixSlope(0, MILLION);
         s.fixSlope(1, 0.0);
         checks.isTrue("12: the spline is above the value behind", s.value(669999.287) > 9.0);
         s.insertKnot(669999.287);
         checks.same("12: the value behind instead", s.knotValue(1), 9.0);
-        MonotoneSpline t = fitted(4.1, 2.1, 6.3999999999999995, 5.2);
+        MonotoneSpline t = Splines.fitted(4.1, 2.1, 6.3999999999999995, 5.2);
         t.fixSlope(0, MILLION);
         t.fixSlope(1, MILLION);
         double middle = (4.1 + 6.3999999999999995) / 2;
@@ -364,7 +349,7 @@ public final class PromiseTest {
      * 0, which is then removed; in that range rounding bends the spline down.
      */
     private static MonotoneSpline tinyValues() {
-        MonotoneSpline s = points(0.0, 0.0, 30.0, 0.0);
+        MonotoneSpline s = Splines.points(0.0, 0.0, 30.0, 0.0);
         for (int i = 1; i <= 20; i++) {
             s.addPoint(50000.0 * i, i == 20 ? 0.000001 : 0.0, 1.0);
         }
@@ -397,7 +382,7 @@ public final class PromiseTest {
     }
 
     private static void removeKnot() {
-        MonotoneSpline s = fitted(0.0, 0.0, 1.0, 1.0, 2.0, 4.0, 3.0, 5.0);
+        MonotoneSpline s = Splines.fitted(0.0, 0.0, 1.0, 1.0, 2.0, 4.0, 3.0, 5.0);
         s.fixSlope(2, 0.25);
         checks.refused("13: -1", INDEX, () -> s.removeKnot(-1));
         checks.refused("13: the count", INDEX, () -> s.removeKnot(4));
@@ -418,7 +403,7 @@ public final class PromiseTest {
     }
 
     private static void setKnotValue() {
-        MonotoneSpline s = fitted(0.0, 0.0, 1.0, 1.0, 2.0, 4.0);
+        MonotoneSpline s = Splines.fitted(0.0, 0.0, 1.0, 1.0, 2.0, 4.0);
         checks.same("14: the value before", s.setKnotValue(1, 2.0), 1.0);
         checks.same("14: the new value", s.knotValue(1), 2.0);
         checks.same("14: as low as the one before", s.setKnotValue(1, 0.0), 2.0);
@@ -449,7 +434,7 @@ public final class PromiseTest {
     }
 
     private static void fixSlope() {
-        MonotoneSpline s = fitted(0.0, 0.0, 1.0, 1.0, 2.0, 4.0);
+        MonotoneSpline s = Splines.fitted(0.0, 0.0, 1.0, 1.0, 2.0, 4.0);
         checks.same("15: below the limit", s.fixSlope(1, 2.0), 2.0);
         checks.same("15: at the limit", s.fixSlope(1, 3.0), 3.0);
         checks.same("15: above the limit", s.fixSlope(1, MILLION), 3.0);
@@ -467,13 +452,13 @@ public final class PromiseTest {
         checks.refused("15: the count", INDEX, () -> s.fixSlope(3, 1.0));
         checks.refused("15: no knots", INDEX, () -> new MonotoneSpline().fixSlope(0, 1.0));
         checks.same("15: what is refused changes nothing", s.knotSlope(1), 3.0);
-        MonotoneSpline t = fitted(0.0, 0.0, 1.0, 1.0, 2.0, 4.0);
+        MonotoneSpline t = Splines.fitted(0.0, 0.0, 1.0, 1.0, 2.0, 4.0);
         checks.refused("15: a wrong slope", ARGUMENT, () -> t.fixSlope(1, NAN));
         checks.same("15: leaves it free", t.isFixed(1), false);
     }
 
     private static void freeSlope() {
-        MonotoneSpline s = fitted(0.0, 0.0, 1.0, 1.0, 2.0, 4.0);
+        MonotoneSpline s = Splines.fitted(0.0, 0.0, 1.0, 1.0, 2.0, 4.0);
         checks.same("16: it was free", s.freeSlope(1), false);
         s.fixSlope(1, 0.0);
         checks.same("16: it was fixed", s.freeSlope(1), true);
@@ -488,7 +473,7 @@ public final class PromiseTest {
     }
 
     private static void value() {
-        MonotoneSpline s = fitted(0.0, 0.0, 1.0, 1.0, 2.0, 4.0);
+        MonotoneSpline s = Splines.fitted(0.0, 0.0, 1.0, 1.0, 2.0, 4.0);
         checks.same("17: the first place", s.value(0.0), 0.0);
         checks.same("17: in the first piece", s.value(0.5), 0.4375);
         checks.same("17: a knot between", s.value(1.0), 1.0);
@@ -502,18 +487,18 @@ public final class PromiseTest {
             checks.refused("19: from " + x, ARGUMENT, () -> s.area(x, 1.0));
             checks.refused("19: to " + x, ARGUMENT, () -> s.area(1.0, x));
         }
-        MonotoneSpline empty = points(0.0, 0.0, 1.0, 1.0);
+        MonotoneSpline empty = Splines.points(0.0, 0.0, 1.0, 1.0);
         for (double x : new double[] {0.0, 0.5, 1.0}) {
             checks.refused("17: no knots", ARGUMENT, () -> empty.value(x));
             checks.refused("18: no knots", ARGUMENT, () -> empty.slope(x));
             checks.refused("19: no knots", ARGUMENT, () -> empty.area(x, x));
             checks.refused("20: no knots", ARGUMENT, () -> empty.reach(x));
         }
-        MonotoneSpline t = fitted(2.8, 1.7, 4.4, 3.4);
+        MonotoneSpline t = Splines.fitted(2.8, 1.7, 4.4, 3.4);
         t.fixSlope(0, MILLION);
         t.fixSlope(1, MILLION);
         checks.same("17: the last place is of the last piece", t.value(4.4), 3.4000000000000004);
-        MonotoneSpline u = fitted(2.8, 1.7, 4.4, 3.4, 5.0, 9.0);
+        MonotoneSpline u = Splines.fitted(2.8, 1.7, 4.4, 3.4, 5.0, 9.0);
         u.fixSlope(0, MILLION);
         u.fixSlope(1, MILLION);
         checks.same("17: a place between is of the piece behind it", u.value(4.4), 3.4);
@@ -521,7 +506,7 @@ public final class PromiseTest {
     }
 
     private static void slope() {
-        MonotoneSpline s = fitted(0.0, 0.0, 1.0, 1.0, 2.0, 4.0);
+        MonotoneSpline s = Splines.fitted(0.0, 0.0, 1.0, 1.0, 2.0, 4.0);
         checks.same("18: the first place", s.slope(0.0), 1.0);
         checks.same("18: in the first piece", s.slope(0.5), 0.875);
         checks.same("18: a knot between", s.slope(1.0), 1.5);
@@ -529,7 +514,7 @@ public final class PromiseTest {
         checks.same("18: the last place", s.slope(2.0), 3.0);
         s.fixSlope(1, 0.0);
         checks.same("18: a knot with a fixed slope", s.slope(1.0), 0.0);
-        MonotoneSpline t = fitted(4.1, 2.1, 6.3999999999999995, 5.2);
+        MonotoneSpline t = Splines.fitted(4.1, 2.1, 6.3999999999999995, 5.2);
         t.fixSlope(0, MILLION);
         t.fixSlope(1, MILLION);
         checks.same("18: below 0 by rounding", t.slope((4.1 + 6.3999999999999995) / 2), -8.881784197001252E-16);
@@ -540,7 +525,7 @@ public final class PromiseTest {
     }
 
     private static void area() {
-        MonotoneSpline s = fitted(0.0, 0.0, 1.0, 1.0, 2.0, 4.0);
+        MonotoneSpline s = Splines.fitted(0.0, 0.0, 1.0, 1.0, 2.0, 4.0);
         double first = part(1.0, 0.0, 1.0, -0.5, 0.5);
         double second = part(1.0, 1.0, 1.5, 3.0, -1.5);
         double half = part(0.5, 1.0, 1.5, 3.0, -1.5);
@@ -551,8 +536,8 @@ public final class PromiseTest {
         checks.same("19: backwards", s.area(1.5, 0.0), 0.0 - (first + half));
         checks.same("19: none", s.area(1.25, 1.25), 0.0);
         checks.same("19: over a knot", s.area(0.5, 1.5), first + half - part(0.5, 0.0, 1.0, -0.5, 0.5));
-        checks.same("19: below 0", fitted(0.0, -2.0, 1.0, -2.0).area(0.0, 1.0), -2.0);
-        MonotoneSpline t = fitted(0.0, 0.1, 0.1, 0.1, 0.3, 0.1, 0.6, 0.1, 0.7, 0.1);
+        checks.same("19: below 0", Splines.fitted(0.0, -2.0, 1.0, -2.0).area(0.0, 1.0), -2.0);
+        MonotoneSpline t = Splines.fitted(0.0, 0.1, 0.1, 0.1, 0.3, 0.1, 0.6, 0.1, 0.7, 0.1);
         double sum = 0.1 * 0.1;
         sum += (0.3 - 0.1) * 0.1;
         sum += (0.6 - 0.3) * 0.1;
@@ -560,7 +545,7 @@ public final class PromiseTest {
     }
 
     private static void reach() {
-        MonotoneSpline s = fitted(0.0, 0.0, 1.0, 1.0, 2.0, 4.0);
+        MonotoneSpline s = Splines.fitted(0.0, 0.0, 1.0, 1.0, 2.0, 4.0);
         checks.same("20: the last value", s.reach(4.0), 2.0);
         checks.same("20: a knot's value", s.reach(1.0), 1.0);
         double half = s.reach(0.4375);
@@ -573,35 +558,35 @@ public final class PromiseTest {
         for (double y : wrong) {
             checks.refused("20: " + y, ARGUMENT, () -> s.reach(y));
         }
-        MonotoneSpline t = fitted(-2.0, 3.0, -1.0, 3.0, 0.0, 5.0, 1.0, 5.0, 2.0, 6.0);
+        MonotoneSpline t = Splines.fitted(-2.0, 3.0, -1.0, 3.0, 0.0, 5.0, 1.0, 5.0, 2.0, 6.0);
         checks.isTrue("20: before a flat piece", t.reach(5.0) <= 0.0 && t.reach(5.0) > -0.000001);
         checks.same("20: the first flat piece", t.reach(3.0), -2.0);
         checks.isTrue("20: behind a flat piece", t.reach(6.0) <= 2.0 && t.reach(6.0) > 1.999999);
-        checks.same("20: all flat", fitted(1.0, 7.0, 3.0, 7.0, 4.0, 7.0).reach(7.0), 1.0);
-        double small = fitted(0.0, 0.0, 1.0, 1.0).reach(0.0000005);
+        checks.same("20: all flat", Splines.fitted(1.0, 7.0, 3.0, 7.0, 4.0, 7.0).reach(7.0), 1.0);
+        double small = Splines.fitted(0.0, 0.0, 1.0, 1.0).reach(0.0000005);
         checks.isTrue("20: a small value is not 0 here", small >= 0.0000005 && small < 0.0000005 + 1e-18);
     }
 
     private static void steepest() {
-        checks.same("21: the last piece", fitted(0.0, 0.0, 1.0, 1.0, 2.0, 4.0).steepest(), 1);
-        checks.same("21: the first of several", fitted(0.0, 0.0, 1.0, 1.0, 2.0, 3.0, 3.0, 5.0).steepest(), 1);
-        checks.same("21: by its rise, not by its height", fitted(0.0, 0.0, 4.0, 3.0, 5.0, 4.0).steepest(), 1);
-        checks.same("21: all flat", fitted(0.0, 1.0, 1.0, 1.0, 2.0, 1.0).steepest(), 0);
-        checks.same("21: two knots", fitted(0.0, 1.0, 1.0, 2.0).steepest(), 0);
-        checks.same("21: no knots", points(0.0, 1.0, 1.0, 2.0).steepest(), -1);
-        checks.same("21: the first piece", fitted(0.0, 0.0, 1.0, 5.0, 2.0, 6.0).steepest(), 0);
+        checks.same("21: the last piece", Splines.fitted(0.0, 0.0, 1.0, 1.0, 2.0, 4.0).steepest(), 1);
+        checks.same("21: the first of several", Splines.fitted(0.0, 0.0, 1.0, 1.0, 2.0, 3.0, 3.0, 5.0).steepest(), 1);
+        checks.same("21: by its rise, not by its height", Splines.fitted(0.0, 0.0, 4.0, 3.0, 5.0, 4.0).steepest(), 1);
+        checks.same("21: all flat", Splines.fitted(0.0, 1.0, 1.0, 1.0, 2.0, 1.0).steepest(), 0);
+        checks.same("21: two knots", Splines.fitted(0.0, 1.0, 1.0, 2.0).steepest(), 0);
+        checks.same("21: no knots", Splines.points(0.0, 1.0, 1.0, 2.0).steepest(), -1);
+        checks.same("21: the first piece", Splines.fitted(0.0, 0.0, 1.0, 5.0, 2.0, 6.0).steepest(), 0);
     }
 
     private static void flatCount() {
-        checks.same("22: none", fitted(0.0, 0.0, 1.0, 1.0, 2.0, 4.0).flatCount(), 0);
-        checks.same("22: two of four", fitted(0.0, 1.0, 1.0, 1.0, 2.0, 4.0, 3.0, 5.0, 4.0, 5.0).flatCount(), 2);
-        checks.same("22: all", fitted(0.0, 1.0, 1.0, 1.0, 2.0, 1.0).flatCount(), 2);
-        checks.same("22: the last knot begins no piece", fitted(0.0, -1.0, 1.0, 0.0).flatCount(), 0);
-        checks.same("22: no knots", points(0.0, 1.0, 1.0, 1.0).flatCount(), 0);
+        checks.same("22: none", Splines.fitted(0.0, 0.0, 1.0, 1.0, 2.0, 4.0).flatCount(), 0);
+        checks.same("22: two of four", Splines.fitted(0.0, 1.0, 1.0, 1.0, 2.0, 4.0, 3.0, 5.0, 4.0, 5.0).flatCount(), 2);
+        checks.same("22: all", Splines.fitted(0.0, 1.0, 1.0, 1.0, 2.0, 1.0).flatCount(), 2);
+        checks.same("22: the last knot begins no piece", Splines.fitted(0.0, -1.0, 1.0, 0.0).flatCount(), 0);
+        checks.same("22: no knots", Splines.points(0.0, 1.0, 1.0, 1.0).flatCount(), 0);
     }
 
     private static void setTail() {
-        MonotoneSpline s = fitted(0.0, 0.0, 1.0, 1.0);
+        MonotoneSpline s = Splines.fitted(0.0, 0.0, 1.0, 1.0);
         checks.same("23: at first 0", s.setTail(0, 3, 2.0), 0);
         checks.same("23: the kind before", s.setTail(0, 6, -2.0), 3);
         checks.same("23: the other end is another tail", s.setTail(1, 1, 2.0), 0);
@@ -640,7 +625,7 @@ public final class PromiseTest {
     }
 
     private static void limit() {
-        MonotoneSpline s = fitted(0.0, 0.25, 1.0, 1.0, 2.0, 4.0);
+        MonotoneSpline s = Splines.fitted(0.0, 0.25, 1.0, 1.0, 2.0, 4.0);
         checks.same("24: at first on the left", s.limit(0), 0.25);
         checks.same("24: at first on the right", s.limit(1), 4.0);
         double half = Math.PI / 2;
@@ -668,8 +653,8 @@ public final class PromiseTest {
         checks.refused("24: -1", INDEX, () -> s.limit(-1));
         checks.refused("24: 2", INDEX, () -> s.limit(2));
         checks.refused("24: no such end and no knots", INDEX, () -> new MonotoneSpline().limit(2));
-        checks.refused("24: no knots on the left", STATE, () -> points(0.0, 0.0, 1.0, 1.0).limit(0));
-        checks.refused("24: no knots on the right", STATE, () -> points(0.0, 0.0, 1.0, 1.0).limit(1));
+        checks.refused("24: no knots on the left", STATE, () -> Splines.points(0.0, 0.0, 1.0, 1.0).limit(0));
+        checks.refused("24: no knots on the right", STATE, () -> Splines.points(0.0, 0.0, 1.0, 1.0).limit(1));
     }
 
     private static long digestOf(MonotoneSpline s, int points, int left, int right) {
@@ -686,7 +671,7 @@ public final class PromiseTest {
     }
 
     private static void digest() {
-        MonotoneSpline s = points(-MILLION, -MILLION, -0.1, -0.3, 0.000001, 0.0, 0.75, 3.0, MILLION, MILLION);
+        MonotoneSpline s = Splines.points(-MILLION, -MILLION, -0.1, -0.3, 0.000001, 0.0, 0.75, 3.0, MILLION, MILLION);
         checks.same("25: points alone", s.digest(), digestOf(s, 5, 0, 0));
         s.fit();
         checks.same("25: after a fit", s.digest(), digestOf(s, 5, 0, 0));
@@ -698,7 +683,7 @@ public final class PromiseTest {
         long before = s.digest();
         s.setTail(1, 6, 2.0);
         checks.same("25: a factor does not count", s.digest(), before);
-        MonotoneSpline t = fitted(0.0, 0.0, 1.0, 1.0, 2.0, 4.0);
+        MonotoneSpline t = Splines.fitted(0.0, 0.0, 1.0, 1.0, 2.0, 4.0);
         for (int i = 0; i < 60; i++) {
             t.setKnotValue(2, 1.0 + 1.7 * i * i * i);
             t.setKnotValue(0, -0.3 * i * i);
