@@ -261,6 +261,13 @@ public final class KnotBoundaryTest {
         checks.same("12: the value behind", s.knotValue(1), 9.0);
     }
 
+    private static void newKnotHasTheValueBeforeIfTheSplineIsLess() {
+        MonotoneSpline s = Splines.tinyValues();
+        checks.isTrue("12: the spline is less", s.value(28.614) < s.knotValue(0));
+        checks.same("12: there", s.insertKnot(28.614), 1);
+        checks.same("12: the value before", s.knotValue(1), 0.0);
+    }
+
     private static void newKnotHasTheSlope0IfTheSplineHasANegativeOne() {
         MonotoneSpline s = Splines.fitted(4.1, 2.1, 6.3999999999999995, 5.2);
         s.fixSlope(0, MILLION);
@@ -458,6 +465,7 @@ public final class KnotBoundaryTest {
         wrongPlaceBeforeSixtyKnots();
         newKnotHasTheValueAndTheSlopeOfTheSpline();
         newKnotHasTheValueBehindIfTheSplineIsGreater();
+        newKnotHasTheValueBeforeIfTheSplineIsLess();
         newKnotHasTheSlope0IfTheSplineHasANegativeOne();
         valuesNeverDecrease();
         removeFirstOrLastKnot();

@@ -10,8 +10,8 @@ public final class LanguageTest {
 
     private static final String[] RULED_OUT = {
         "\\bpackage\\b", "\\bimport\\b", "\\bprotected\\b", "->", "::", "\\bDouble\\b", "\\bFloat\\b",
-        "\\bStrictMath\\b", "\\bMath\\b", "\\bM(IN|AX)_VALUE\\b", "\\bObject\\b", "\\bvar\\b", "Exact\\b", "%", "\\btry\\b", "\\bcatch\\b",
-        "\\bfinally\\b", "\\bsynchronized\\b", "\\bassert\\b", "\\binstanceof\\b", "\\bthrow\\s+(?!new\\b)",
+        "\\bStrictMath\\b", "\\bMath\\b", "\\bM(IN|AX)_VALUE\\b", "\\bObject\\b", "\\bvar\\b", "Exact\\b", "%",
+        "\\btry\\b", "\\bcatch\\b", "\\bfinally\\b", "\\bsynchronized\\b", "\\bassert\\b", "\\binstanceof\\b", "\\bthrow\\s+(?!new\\b)",
         "\\bstatic\\s*\\{", "\\bnull\\b", "\\bnative\\b", "\\bvolatile\\b", "\\bSystem\\s*\\.\\s*(?!arraycopy\\b)",
         "\\bThread\\b", "\\bRandom\\b", "\\benum\\b.*\\bdouble\\b", "\\+\\s*\"", "\"\\s*\\+", "[^\\x00-\\x7e]",
     };

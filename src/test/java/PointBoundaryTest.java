@@ -233,6 +233,16 @@ public final class PointBoundaryTest {
         checks.refused("3: no second time", INDEX, () -> s.removePoint(0));
     }
 
+    private static void removedPointTakesItsValueAndWeightAlong() {
+        MonotoneSpline s = new MonotoneSpline();
+        s.addPoint(0.0, 50.0, 500.0);
+        s.addPoint(1.0, 4.0, 3.0);
+        s.addPoint(2.0, 0.0, 1.0);
+        s.removePoint(0);
+        checks.same("3: one block", s.fit(), 1);
+        checks.same("3: of the values and weights that are left", s.knotValue(0), 3.0);
+    }
+
     private static void removedPointLeavesKnots() {
         MonotoneSpline s = Splines.fitted(0.0, 0.0, 1.0, 1.0);
         s.removePoint(1);
@@ -370,6 +380,7 @@ public final class PointBoundaryTest {
         removeNoSuchPoint();
         removeFirstAndLastPoint();
         removeOnlyPoint();
+        removedPointTakesItsValueAndWeightAlong();
         removedPointLeavesKnots();
         countOfPoints();
         placeOfNoSuchPoint();

@@ -344,34 +344,8 @@ public final class PromiseTest {
         checks.same("12: 0 is what was fixed", t.knotSlope(1), 0.0);
     }
 
-    /**
-     * Values become as small as a double gets where knots are inserted close behind one with the value
-     * 0, which is then removed; in that range rounding bends the spline down.
-     */
-    private static MonotoneSpline tinyValues() {
-        MonotoneSpline s = Splines.points(0.0, 0.0, 30.0, 0.0);
-        for (int i = 1; i <= 20; i++) {
-            s.addPoint(50000.0 * i, i == 20 ? 0.000001 : 0.0, 1.0);
-        }
-        s.fit();
-        for (int zero = 20; zero > 8; zero--) {
-            s.insertKnot(s.knotPlace(zero) + 0.00011);
-            s.removeKnot(zero);
-        }
-        for (int zero = 8; zero > 2; zero--) {
-            s.removeKnot(zero);
-        }
-        s.removeKnot(2);
-        s.fixSlope(2, 0.0);
-        s.insertKnot(30.12);
-        s.removeKnot(1);
-        s.fixSlope(0, 1.0);
-        s.fixSlope(1, 1.0);
-        return s;
-    }
-
     private static void insertKnotBelow() {
-        MonotoneSpline s = tinyValues();
+        MonotoneSpline s = Splines.tinyValues();
         checks.same("12: a tiny value", s.knotValue(1), 106 * Double.MIN_VALUE);
         checks.isTrue("12: the spline is below the value before", s.value(28.614) < 0.0);
         checks.isTrue("12: its slope is negative", s.slope(28.614) < 0.0);

@@ -313,10 +313,12 @@ public final class SplineBoundaryTest {
         s.setTail(0, 2, 0.000001);
         checks.same("24: it counts", s.limit(0), -0.000001);
         for (int kind = 4; kind <= 6; kind++) {
-            s.setTail(0, kind, -0.000001);
-            s.setTail(1, kind, 0.000001);
-            checks.same("24: left, kind " + kind, s.limit(0), kind == 6 ? -ENDLESS : ENDLESS);
-            checks.same("24: right, kind " + kind, s.limit(1), ENDLESS);
+            for (double sign : new double[] {1.0, -1.0}) {
+                s.setTail(0, kind, sign * 0.000001);
+                s.setTail(1, kind, sign * 0.000001);
+                checks.same("24: left, kind " + kind, s.limit(0), kind == 6 ? sign * ENDLESS : -sign * ENDLESS);
+                checks.same("24: right, kind " + kind, s.limit(1), sign * ENDLESS);
+            }
         }
     }
 

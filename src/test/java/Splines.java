@@ -54,6 +54,32 @@ final class Splines {
         return s;
     }
 
+    /**
+     * Values become as small as a double gets where knots are inserted close behind one with the value
+     * 0, which is then removed; in that range rounding bends the spline down.
+     */
+    static MonotoneSpline tinyValues() {
+        MonotoneSpline s = Splines.points(0.0, 0.0, 30.0, 0.0);
+        for (int i = 1; i <= 20; i++) {
+            s.addPoint(50000.0 * i, i == 20 ? 0.000001 : 0.0, 1.0);
+        }
+        s.fit();
+        for (int zero = 20; zero > 8; zero--) {
+            s.insertKnot(s.knotPlace(zero) + 0.00011);
+            s.removeKnot(zero);
+        }
+        for (int zero = 8; zero > 2; zero--) {
+            s.removeKnot(zero);
+        }
+        s.removeKnot(2);
+        s.fixSlope(2, 0.0);
+        s.insertKnot(30.12);
+        s.removeKnot(1);
+        s.fixSlope(0, 1.0);
+        s.fixSlope(1, 1.0);
+        return s;
+    }
+
     /** Each answer that a spline gives without being changed, to the last bit. */
     static String stateOf(MonotoneSpline s) {
         StringBuilder state = new StringBuilder();
