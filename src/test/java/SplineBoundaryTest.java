@@ -128,6 +128,7 @@ public final class SplineBoundaryTest {
         MonotoneSpline s = Splines.fitted(0.0, -1.0, 2.0, -1.0);
         checks.same("19: 0, not -0", s.area(0.0, 0.0), 0.0);
         checks.same("19: below 0", s.area(0.0, 2.0), -2.0);
+        checks.same("19: up to 0 and up to -0, where the parts' zeros have two signs", s.area(-0.0, 0.0), 0.0);
     }
 
     private static void areaOfSixtyKnots() {
@@ -417,6 +418,13 @@ public final class SplineBoundaryTest {
         checks.same("25: it counts whole", s.digest(), digestOf(s, 0, 0));
     }
 
+    /** What a fit computes is not taken as 0, however small it is. */
+    private static void digestOfAValueJustBelow0() {
+        MonotoneSpline s = Splines.fitted(0.0, 0.3, 1.0, -0.1, 2.0, -0.2, 3.0, 1.0);
+        checks.isTrue("25: a value just below 0", s.knotValue(0) < 0.0 && s.knotValue(0) > -1e-16);
+        checks.same("25: its sign counts", s.digest(), digestOf(s, 0, 0));
+    }
+
     private static void digestTakesMinus0As0() {
         MonotoneSpline minus = Splines.fitted(-0.0, -0.0, 1.0, 1.0);
         minus.fixSlope(0, -0.0);
@@ -471,6 +479,7 @@ public final class SplineBoundaryTest {
         digestWrapsAround();
         digestOfTheGreatestSlope();
         digestOfNumbersBelowTheNormalOnes();
+        digestOfAValueJustBelow0();
         digestTakesMinus0As0();
         digestTellsFixedSlopesAndTails();
         checks.end();
